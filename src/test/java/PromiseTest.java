@@ -1,6 +1,6 @@
 /**
- * Each promise by itself, with answers worked out by hand: ordinary inputs, the edges that
- * the document names, and wrong inputs.
+ * Each promise by itself, with answers worked out by hand: mostly ordinary inputs, and some
+ * wrong ones. The boundary cases have tests of their own.
  */
 public final class PromiseTest {
     private static final int LOW = Integer.MIN_VALUE;
@@ -33,8 +33,6 @@ public final class PromiseTest {
         euler();
         border();
         bounds();
-        questionsChangeNothing();
-        objectsAreApart();
         CHECKS.end();
     }
 
@@ -50,25 +48,16 @@ public final class PromiseTest {
         return bars;
     }
 
-    /** Four points, the four edges of a square (4 .. 7), a diagonal (8), two triangles (9, 10). */
     private static PersistentBars square() {
-        return grown(1, 2, 4, 8, 3, 6, 12, 9, 5, 7, 13);
+        return grown(Growths.SQUARE);
     }
 
-    /** The four faces of a tetrahedron without its inside: 14 pieces. */
     private static PersistentBars hollow() {
-        return grown(1, 2, 4, 8, 3, 5, 6, 9, 10, 12, 7, 11, 13, 14);
+        return grown(Growths.HOLLOW);
     }
 
-    /** 26 pieces: a tetrahedron, the two points left, and all edges that meet them. */
     private static PersistentBars full() {
-        PersistentBars bars = new PersistentBars();
-        due("fill(15)", bars.fill(15), 15);
-        int[] more = {16, 32, 17, 18, 20, 24, 33, 34, 36, 40, 48};
-        for (int i = 0; i < more.length; i++) {
-            due("add(" + more[i] + ")", bars.add(more[i]), 15 + i);
-        }
-        return bars;
+        return grown(Growths.FULL);
     }
 
     private static void newObject() {
@@ -472,54 +461,5 @@ public final class PromiseTest {
         due("bounds(16384), a tetrahedron", tetrahedron.bounds(16384), 2);
         due("bounds(2^26 - 1) of the full", full().bounds((1 << 26) - 1), -2);
         due("bounds(2^26) of the full", full().bounds(1 << 26), -1);
-    }
-
-    private static void questionsChangeNothing() {
-        PersistentBars bars = square();
-        int[] before = answers(bars);
-        bars.add(7);
-        bars.add(14);
-        bars.add(31);
-        bars.fill(0);
-        due("fill(63)", bars.fill(63), -1);
-        int[] after = answers(bars);
-        for (int i = 0; i < before.length; i++) {
-            due("answer " + i + " asked again", after[i], before[i]);
-        }
-        PersistentBars full = full();
-        int[] fullBefore = answers(full);
-        due("fill(51) of the full", full.fill(51), -2);
-        due("add(19) to the full", full.add(19), -4);
-        int[] fullAfter = answers(full);
-        for (int i = 0; i < fullBefore.length; i++) {
-            due("answer " + i + " of the full asked again", fullAfter[i], fullBefore[i]);
-        }
-    }
-
-    private static int[] answers(PersistentBars bars) {
-        int[] answers = new int[120];
-        int n = 0;
-        answers[n++] = bars.size();
-        for (int i = 0; i < 26; i++) {
-            answers[n++] = bars.piece(i);
-            answers[n++] = bars.partner(i);
-            answers[n++] = bars.bounds(1 << i);
-            answers[n++] = bars.holes(i, i & 3);
-        }
-        for (int k = 0; k <= 3; k++) {
-            answers[n++] = bars.forever(k);
-            answers[n++] = bars.longest(k);
-        }
-        return answers;
-    }
-
-    private static void objectsAreApart() {
-        PersistentBars one = new PersistentBars();
-        PersistentBars other = new PersistentBars();
-        due("one add(1)", one.add(1), 0);
-        due("other size()", other.size(), 0);
-        due("other add(2)", other.add(2), 0);
-        due("one add(3)", one.add(3), -3);
-        due("one piece(0)", one.piece(0), 1);
     }
 }
