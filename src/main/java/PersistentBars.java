@@ -65,7 +65,7 @@ public final class PersistentBars {
         }
         count--;
         int former = partners[count];
-        if (former != NONE) {
+        if (isNumber(former)) {
             partners[former] = NONE;
         }
         return growth[count];
@@ -243,7 +243,7 @@ public final class PersistentBars {
         int opener = lastOf(cycle);
         closedCycles[number] = cycle;
         partners[number] = opener;
-        if (opener != NONE) {
+        if (isNumber(opener)) {
             partners[opener] = number;
         }
         count++;
@@ -257,8 +257,9 @@ public final class PersistentBars {
     private int withoutBorders(int chain) {
         int rest = chain;
         for (int i = count - 1; i >= 0; i--) {
-            if (has(rest, i) && partners[i] > i) {
-                rest ^= closedCycles[partners[i]];
+            int partner = partners[i];
+            if (has(rest, i) && isNumber(partner) && partner > i) {
+                rest ^= closedCycles[partner];
             }
         }
         return rest;

@@ -387,6 +387,7 @@ public final class PromiseTest {
         due("longest(2)", tetrahedron.longest(2), 2);
         due("longest(3)", tetrahedron.longest(3), 0);
         due("longest(0), the last one not the longest", grown(1, 8, 2, 4, 3, 12, 6, 16, 17).longest(0), 5);
+        due("longest(0), the first one not the longest", grown(1, 2, 3, 4, 8, 5).longest(0), 2);
         for (int wrong : NO_DIMENSIONS) {
             due("longest(" + wrong + ")", bars.longest(wrong), -1);
         }
